@@ -665,10 +665,13 @@ public final class SofaStair {
             return read(signs, i) - '0';
         }
 
-        /** 0: the body, 1 to 4: PARTS 0 to 3. */
+        /** 0: the body, 1 to 4: PARTS 0 to 3; NONE: another sign. */
         int groupAt(int i) {
             int sign = read(signs, i);
-            return sign == '-' ? 0 : sign - 'a' + 1;
+            if (sign == '-') {
+                return 0;
+            }
+            return sign >= 'a' && sign < 'a' + PARTS ? sign - 'a' + 1 : NONE;
         }
 
         int moveAt(int i) {
@@ -701,7 +704,7 @@ public final class SofaStair {
             int inCube = i % CUBE_SIGNS;
             if (inCube == 3) {
                 int group = groupAt(i);
-                return group == 0 || i > 3 && group >= 1 && group <= PARTS;
+                return group == 0 || i > 3 && group > 0;
             }
             boolean digit = digitAt(i) >= 0 && digitAt(i) <= LAST_DIGIT;
             return digit && (inCube < 2 || !isThere(i - 2));
