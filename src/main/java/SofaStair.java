@@ -1060,6 +1060,8 @@ public final class SofaStair {
         private final Turns turns;
         private final Way way;
         private final int[] grid = new int[GRID_X * GRID_Y * GRID_Z];
+        /** Where places are in the grid, and how far from there CUBES are, for each way to be turned. */
+        private final int[] corners = new int[PLACES];
         private final int[] offsets = new int[WAYS * MOST_CUBES];
         private final int[] hindered = new int[STANDS];
         private final int[] queue = new int[STANDS];
@@ -1072,6 +1074,9 @@ public final class SofaStair {
             this.turns = turns;
             this.way = way;
             Arrays.fill(reachedBy, NOT_REACHED);
+            for (int place = 0; place < PLACES; place++) {
+                write(corners, place, gridAt(xOf(place), yOf(place), zOf(place)));
+            }
         }
 
         void forget() {
@@ -1099,7 +1104,7 @@ public final class SofaStair {
             for (int cube = 0; cube < other.cubes; cube++) {
                 int offset = gridAt(other.along(turns, other.turned, cube, 0),
                         other.along(turns, other.turned, cube, 1), other.along(turns, other.turned, cube, 2));
-                write(grid, gridOf(other.place) + offset, WALL_BIT);
+                write(grid, read(corners, other.place) + offset, WALL_BIT);
             }
         }
 
@@ -1113,12 +1118,17 @@ public final class SofaStair {
         }
 
         boolean fits(int stand) {
-            return (hinderedAt(stand) & hindering) == 0;
+            int seen = read(hindered, stand);
+            if (seen == NOT_LOOKED_AT) {
+                seen = lookAt(stand);
+                write(hindered, stand, seen);
+            }
+            return (seen & hindering) == 0;
         }
 
         /** Why it does not FIT at a STAND, nothing off: 1 beyond CELLS, 2 a wall or a DOOR; 0: it does. */
         int why(int stand) {
-            int seen = stand < 0 ? BEYOND_ALL : hinderedAt(stand);
+            int seen = stand < 0 ? BEYOND_ALL : lookAt(stand);
             return (seen & BEYOND_ALL) != 0 ? 1 : seen != 0 ? 2 : 0;
         }
 
@@ -1194,23 +1204,15 @@ public final class SofaStair {
             reached++;
         }
 
-        private int hinderedAt(int stand) {
-            int seen = read(hindered, stand);
-            if (seen == NOT_LOOKED_AT) {
-                seen = lookAt(stand);
-                write(hindered, stand, seen);
-            }
-            return seen;
-        }
-
+        /** What hinders it at a STAND, whatever is off. */
         private int lookAt(int stand) {
             int seen = 0;
             if (thing != null) {
-                int corner = gridOf(stand / WAYS);
+                int corner = read(corners, stand / WAYS);
                 int first = stand % WAYS * MOST_CUBES;
                 for (int cube = 0; cube < thing.cubes; cube++) {
                     int hindrance = read(grid, corner + read(offsets, first + cube));
-                    seen |= hindrance << thing.groupOf(cube) * GROUP_BITS;
+                    seen |= hindrance << read(thing.groups, cube) * GROUP_BITS;
                 }
             }
             return seen;
@@ -1220,17 +1222,13 @@ public final class SofaStair {
             Arrays.fill(grid, BEYOND_BIT);
             for (int place = 0; place < PLACES; place++) {
                 if (way.isCell(place)) {
-                    write(grid, gridOf(place), hindranceOf(way.kindAt(place)));
+                    write(grid, read(corners, place), hindranceOf(way.kindAt(place)));
                 }
             }
         }
 
         private static int hindranceOf(int kind) {
             return kind == 0 ? 0 : kind == WALL ? WALL_BIT : 1 << kind - FIRST_DOOR;
-        }
-
-        private static int gridOf(int place) {
-            return gridAt(xOf(place), yOf(place), zOf(place));
         }
 
         private static int gridAt(int x, int y, int z) {
