@@ -472,10 +472,12 @@ public final class SofaStair {
         if (!goesWith(it, useful)) {
             return;
         }
+        int needed = neededOf(it, useful);
         sumSetCosts(it);
         for (int cost = 0; cost <= MOST_COST * (PARTS + DOORS); cost++) {
             for (int set = 0; set < setCosts.length; set++) {
-                if (setCosts[set] == cost && (set & ~useful) == 0 && goesWith(it, set)) {
+                boolean may = setCosts[set] == cost && (set & ~useful) == 0 && (needed & ~set) == 0;
+                if (may && goesWith(it, set)) {
                     answer.add(cost);
                     answer.add(set / SETS);
                     answer.add(set % SETS);
@@ -483,6 +485,17 @@ public final class SofaStair {
                 }
             }
         }
+    }
+
+    /** What is in each set by which it GOES: it does not go where all else of use is off. */
+    private int neededOf(Thing it, int useful) {
+        int needed = 0;
+        for (int i = 0; i < PARTS + DOORS; i++) {
+            if (has(useful, i) && !goesWith(it, useful & ~(1 << i))) {
+                needed |= 1 << i;
+            }
+        }
+        return needed;
     }
 
     private void sumSetCosts(Thing it) {
@@ -504,9 +517,8 @@ public final class SofaStair {
         int sets = 0;
         int always = SETS - 1;
         for (int doors = 0; doors < SETS; doors++) {
-            // Of DOORS without CELLS nothing depends: that set was looked at before.
-            boolean going = (doors & ~useful) == 0 ? goesWith(it, doors) : has(goesBy, doors & useful);
-            if (going) {
+            // A DOOR more does no harm, and one without CELLS is of no use.
+            if (goesByLess(goesBy, doors) || (doors & ~useful) == 0 && goesWith(it, doors)) {
                 goesBy |= 1 << doors;
                 sets++;
                 always &= doors;
@@ -516,6 +528,16 @@ public final class SofaStair {
         if (sets > 0) {
             answer.add(always);
         }
+    }
+
+    /** Whether one DOOR of a set may be on and it GOES all the same; goesBy has a bit for each set. */
+    private static boolean goesByLess(int goesBy, int doors) {
+        for (int door = 0; door < DOORS; door++) {
+            if (has(doors, door) && has(goesBy, doors & ~(1 << door))) {
+                return true;
+            }
+        }
+        return false;
     }
 
     // ---- bars and orders

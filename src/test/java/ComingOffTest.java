@@ -13,6 +13,7 @@ public final class ComingOffTest {
         orderOfFour();
         came();
         afterChanges();
+        questionAfterQuestion();
         refusals();
         due.end();
     }
@@ -240,6 +241,21 @@ public final class ComingOffTest {
         orderIs("the last by place first", s, 15, 1, 2, 3, 0);
         s.goal(1, 0);
         orderIs("each in the way of the other, and one that is not", s, 11);
+        s = way(3, 1, 1, "000-100a");
+        s.lay(0, 0);
+        s.goal(0, 200);
+        orderIs("parts are on", s, 1);
+        s.goal(0, 100);
+        orderIs("and it goes with them", s, 1, 0);
+        tell(s, 3, "000-");
+        s.lay(3, 100);
+        s.goal(3, 200);
+        orderIs("a part of one lies in the other", s, 9);
+        s.lay(3, 200);
+        s.goal(3, 0);
+        orderIs("a part is as walls, too", s, 9);
+        s.goal(0, 0);
+        orderIs("it stays where the other wants to go, and is gone then", s, 9, 0, 3);
         // turned and long: the whole of it is as walls
         s = way(3, 3, 1, "000-100-200-");
         Due.say(s, "z");
@@ -277,6 +293,12 @@ public final class ComingOffTest {
         s.fill(0, 0, 1);
         due.is("no set", s.came(0, 0), 0);
         due.is("no set", s.came(0, 1), -6);
+        s = way(5, 1, 1, "000-");
+        s.lay(0, 0);
+        s.goal(0, 400);
+        for (int door = 0; door < 4; door++) s.fill(100 + 100 * door, 100 + 100 * door, 2 + door);
+        due.is("all must be off", s.came(0, 0), 1);
+        due.is("all must be off", s.came(0, 1), 15);
         // parts are on
         s = way(2, 1, 1, "000-100a");
         s.lay(0, 0);
@@ -318,6 +340,68 @@ public final class ComingOffTest {
         tell(s, 0, "000-");
         s.lay(0, 100);
         due.is("room after another thing", s.room(0, 0), 96);
+        s.size(2, 1, 1);
+        s.lay(0, 100);
+        due.is("room after size", s.room(0, 0), 48);
+        s.fill(0, 0, 1);
+        due.is("room after fill", s.room(0, 0), 24);
+        s.size(3, 1, 1);
+        s.lay(0, 100);
+        due.is("room after size", s.room(0, 0), 72);
+        due.is("goes after size", s.goes(0, 0, 0, -1), 1);
+    }
+
+    /** Each question after each other one: what was kept of the one is not told for the other. */
+    private static void questionAfterQuestion() {
+        due.about("promises 15 to 21, question after question");
+        for (int one = 0; one < QUESTIONS; one++) {
+            for (int other = 0; other < QUESTIONS; other++) {
+                SofaStair s = manyThings();
+                int fresh = ask(s, other);
+                s = manyThings();
+                ask(s, one);
+                due.is("question " + other + " after " + one, ask(s, other), fresh);
+            }
+        }
+    }
+
+    private static final int QUESTIONS = 36;
+
+    private static SofaStair manyThings() {
+        SofaStair s = way(4, 3, 1, "000-100a");
+        s.lay(0, 0);
+        s.goal(0, 120);
+        tell(s, 1, "000-010b");
+        s.lay(1, 300);
+        s.goal(1, 310);
+        tell(s, 2, "000-");
+        s.lay(2, 220);
+        s.goal(2, 20);
+        tell(s, 3, "000-100a010b");
+        s.lay(3, 100);
+        s.goal(3, 210);
+        s.fill(110, 110, 2);
+        s.fill(20, 20, 3);
+        s.cost(-2, 0, 3);
+        s.cost(-1, 0, 5);
+        s.cost(-1, 1, 4);
+        s.cost(0, 0, 6);
+        return s;
+    }
+
+    private static int ask(SofaStair s, int question) {
+        int n = question % 4;
+        switch (question / 4) {
+            case 0: return s.goes(n, 0, 0, -1);
+            case 1: return s.goes(0, n, 0, -1);
+            case 2: return s.goes(3, 3, n, -1);
+            case 3: return s.effort(n, 0, 0, -1);
+            case 4: return s.effort(3, 0, n, -1);
+            case 5: return s.least(n, 0);
+            case 6: return s.bar(n);
+            case 7: return s.order(1 << n, 0);
+            default: return s.came(n, 0);
+        }
     }
 
     private static void refusals() {

@@ -323,6 +323,34 @@ public final class GoingTest {
         effortIs("turning", s, 0, 0, 12, "ezes");
         s.cost(-2, 0, 0);
         effortIs("turning alone costs", s, 0, 0, 9, "ezes");
+        for (char turn : "xyzXYZ".toCharArray()) turnFirst(turn);
+    }
+
+    /** All is walls but where the thing lies, turns and goes east: that TURN is the first MOVE of the ROW. */
+    private static void turnFirst(char turn) {
+        SofaStair s = way(4, 4, 4, "000-100-200-010-001-");
+        boolean[] needed = new boolean[1000];
+        lay(s, "" + turn, 100);
+        mark(s, needed);
+        lay(s, "" + turn, 0);
+        mark(s, needed);
+        lay(s, "", 0);
+        mark(s, needed);
+        for (int cell = 0; cell < 400; cell++) {
+            if (s.cell(cell) == 0 && !needed[cell]) s.fill(cell, cell, 1);
+        }
+        s.goal(0, 100);
+        rowIs("turn first", s, 0, 0, turn + "e");
+        s.cost(-2, 3, 7);
+        s.cost(-2, 0, 2);
+        s.cost(-2, 1, 3);
+        effortIs("turn first", s, 0, 0, 9, turn + "e");
+    }
+
+    private static void mark(SofaStair s, boolean[] needed) {
+        for (int cube = 0; cube < s.told(10); cube++) {
+            needed[s.told(20) + 100 * s.cube(0, cube, 0) + 10 * s.cube(0, cube, 1) + s.cube(0, cube, 2)] = true;
+        }
     }
 
     private static void refusals() {

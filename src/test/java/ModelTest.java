@@ -37,6 +37,14 @@ public final class ModelTest {
         furnish();
         for (int t = 0; t < 4; t++) if (random.nextInt(4) > 0) tellThing(t);
         for (int i = 0; i < 14; i++) layOrGoal(i < 8 ? i % 4 : random.nextInt(4));
+        if (random.nextBoolean()) {
+            for (int i = 0; i < 8; i++) call("cost", i < 4 ? -2 : -1, i % 4, random.nextInt(10));
+        }
+        if (random.nextInt(3) == 0) {
+            call("image", 0);
+            for (int t = 0; t < 4; t++) if (random.nextInt(3) == 0) tellThing(t);
+            call("restore", 0);
+        }
         int rounds = roomy ? 15 : 40;
         for (int i = 0; i < rounds && due.wrong() == 0; i++) {
             if (random.nextInt(4) == 0) change();
@@ -205,59 +213,17 @@ public final class ModelTest {
         return got;
     }
 
-    private static int answer(SofaStair s, String name, int[] n) {
-        switch (name) {
-            case "size": return s.size(n[0], n[1], n[2]);
-            case "fill": return s.fill(n[0], n[1], n[2]);
-            case "cell": return s.cell(n[0]);
-            case "say": return s.say(n[0]);
-            case "wipe": return s.wipe();
-            case "fault": return s.fault(n[0]);
-            case "thing": return s.thing(n[0]);
-            case "cube": return s.cube(n[0], n[1], n[2]);
-            case "cost": return s.cost(n[0], n[1], n[2]);
-            case "lay": return s.lay(n[0], n[1]);
-            case "goal": return s.goal(n[0], n[1]);
-            case "judge": return s.judge(n[0], n[1]);
-            case "move": return s.move(n[0]);
-            case "goes": return s.goes(n[0], n[1], n[2], n[3]);
-            case "effort": return s.effort(n[0], n[1], n[2], n[3]);
-            case "room": return s.room(n[0], n[1]);
-            case "least": return s.least(n[0], n[1]);
-            case "bar": return s.bar(n[0]);
-            case "order": return s.order(n[0], n[1]);
-            case "came": return s.came(n[0], n[1]);
-            case "image": return s.image(n[0]);
-            case "restore": return s.restore(n[0]);
-            default: return s.told(n[0]);
+    private static int answer(Object target, String name, int[] n) {
+        Class<?>[] types = new Class<?>[n.length];
+        Object[] numbers = new Object[n.length];
+        for (int i = 0; i < n.length; i++) {
+            types[i] = int.class;
+            numbers[i] = n[i];
         }
-    }
-
-    private static int answer(Model s, String name, int[] n) {
-        switch (name) {
-            case "size": return s.size(n[0], n[1], n[2]);
-            case "fill": return s.fill(n[0], n[1], n[2]);
-            case "cell": return s.cell(n[0]);
-            case "say": return s.say(n[0]);
-            case "wipe": return s.wipe();
-            case "fault": return s.fault(n[0]);
-            case "thing": return s.thing(n[0]);
-            case "cube": return s.cube(n[0], n[1], n[2]);
-            case "cost": return s.cost(n[0], n[1], n[2]);
-            case "lay": return s.lay(n[0], n[1]);
-            case "goal": return s.goal(n[0], n[1]);
-            case "judge": return s.judge(n[0], n[1]);
-            case "move": return s.move(n[0]);
-            case "goes": return s.goes(n[0], n[1], n[2], n[3]);
-            case "effort": return s.effort(n[0], n[1], n[2], n[3]);
-            case "room": return s.room(n[0], n[1]);
-            case "least": return s.least(n[0], n[1]);
-            case "bar": return s.bar(n[0]);
-            case "order": return s.order(n[0], n[1]);
-            case "came": return s.came(n[0], n[1]);
-            case "image": return s.image(n[0]);
-            case "restore": return s.restore(n[0]);
-            default: return s.told(n[0]);
+        try {
+            return (Integer) target.getClass().getDeclaredMethod(name, types).invoke(target, numbers);
+        } catch (ReflectiveOperationException e) {
+            throw new IllegalStateException(name, e);
         }
     }
 }

@@ -15,6 +15,7 @@ public final class WaysTest {
         cube();
         cost();
         images();
+        imagesOfThings();
         told();
         due.end();
     }
@@ -330,6 +331,48 @@ public final class WaysTest {
         due.is("image(1) anew", s.image(1), 1);
         due.is("restore(1)", s.restore(1), 1);
         due.is("cost of a door", s.cost(-1, 1, 7), 7);
+    }
+
+    private static void imagesOfThings() {
+        due.about("promise 23, all that is of things");
+        SofaStair s = new SofaStair();
+        s.size(6, 6, 4);
+        String[] before = {"000-110a221b", "000-", "000-100-", "000-003d"};
+        String[] after = {"000-", "000-010c200d103-", "000-002b", "000-300c"};
+        for (int t = 0; t < 4; t++) {
+            Due.say(s, before[t]);
+            s.thing(t);
+            Due.say(s, "Z");
+            due.is("lies", s.lay(t, 100 * t), 1);
+            s.goal(t, 10 * t + 1);
+            s.cost(t, t, 5 + t);
+        }
+        int[] was = all(s);
+        s.image(1);
+        for (int t = 0; t < 4; t++) {
+            Due.say(s, after[t]);
+            s.thing(t);
+            s.goal(t, 0);
+            s.cost(t, t, 0);
+        }
+        s.restore(1);
+        int[] is = all(s);
+        for (int i = 0; i < was.length; i++) due.is("answer " + i, is[i], was[i]);
+    }
+
+    /** All that can be asked of THINGS without a change. */
+    private static int[] all(SofaStair s) {
+        int[] all = new int[4 * 3 * 4 + 4 * 5];
+        int n = 0;
+        for (int t = 0; t < 4; t++) {
+            for (int cube = 0; cube < 3; cube++) {
+                for (int what = 0; what < 4; what++) all[n++] = s.cube(t, cube, what);
+            }
+            for (int what = 10; what < 40; what += 10) all[n++] = s.told(what + t);
+            all[n++] = s.cost(t, t, 5 + t);
+            all[n++] = s.room(t, 0);
+        }
+        return all;
     }
 
     private static void told() {
