@@ -26,7 +26,6 @@ public final class SofaStair {
     private final Pad pad = new Pad();
     private final Stair now = new Stair();
     private final Stair[] images = new Stair[IMAGES];
-    private final boolean[] kept = new boolean[IMAGES];
     private final Turns turns = new Turns();
     private final Search search = new Search(turns, now.way);
     private final Cheapest cheapest = new Cheapest(search);
@@ -89,7 +88,7 @@ public final class SofaStair {
     }
 
     public int fault(int how) {
-        if (how < 0 || how > 1) {
+        if (!isUpTo(how, 1)) {
             return OUTSIDE;
         }
         return how == 0 ? pad.thingFault() : pad.rowFault();
@@ -114,7 +113,7 @@ public final class SofaStair {
         if (it == null || cube < 0 || cube >= it.cubes) {
             return UNKNOWN;
         }
-        if (what < 0 || what > 3) {
+        if (!isUpTo(what, 3)) {
             return OUTSIDE;
         }
         if (what == 3) {
@@ -178,25 +177,18 @@ public final class SofaStair {
 
     public int judge(int thing, int what) {
         Thing it = now.thingAt(thing);
-        if (it == null) {
-            return UNKNOWN;
-        }
-        if (what < 0 || what > 1) {
-            return OUTSIDE;
-        }
-        if (it.place < 0) {
-            return STATE;
+        int refusal = refusalOf(it, isUpTo(what, 1));
+        if (it == null || refusal != 0) {
+            return refusal;
         }
         return pad.rowFault() == NONE ? judged(it, what) : NO;
     }
 
     public int move(int thing) {
         Thing it = now.thingAt(thing);
-        if (it == null) {
-            return UNKNOWN;
-        }
-        if (it.place < 0) {
-            return STATE;
+        int refusal = refusalOf(it, true);
+        if (it == null || refusal != 0) {
+            return refusal;
         }
         if (pad.rowFault() != NONE || judged(it, 0) != NONE) {
             return NO;
@@ -222,14 +214,9 @@ public final class SofaStair {
 
     public int room(int thing, int what) {
         Thing it = now.thingAt(thing);
-        if (it == null) {
-            return UNKNOWN;
-        }
-        if (what < 0 || what > 2) {
-            return OUTSIDE;
-        }
-        if (it.place < 0) {
-            return STATE;
+        int refusal = refusalOf(it, isUpTo(what, 2));
+        if (it == null || refusal != 0) {
+            return refusal;
         }
         if (what == 1) {
             return scrapes(it);
@@ -247,14 +234,9 @@ public final class SofaStair {
 
     public int least(int thing, int what) {
         Thing it = now.thingAt(thing);
-        if (it == null) {
-            return UNKNOWN;
-        }
-        if (what < 0 || what > 2) {
-            return OUTSIDE;
-        }
-        if (it.place < 0) {
-            return STATE;
+        int refusal = refusalOf(it, isUpTo(what, 2));
+        if (it == null || refusal != 0) {
+            return refusal;
         }
         if (answer.isNew(LEAST, thing, 0, 0)) {
             findLeast(it);
@@ -294,14 +276,9 @@ public final class SofaStair {
 
     public int came(int thing, int what) {
         Thing it = now.thingAt(thing);
-        if (it == null) {
-            return UNKNOWN;
-        }
-        if (what < 0 || what > 1) {
-            return OUTSIDE;
-        }
-        if (it.place < 0) {
-            return STATE;
+        int refusal = refusalOf(it, isUpTo(what, 1));
+        if (it == null || refusal != 0) {
+            return refusal;
         }
         if (answer.isNew(CAME, thing, 0, 0)) {
             findCame(it);
@@ -315,7 +292,7 @@ public final class SofaStair {
             return OUTSIDE;
         }
         image.copyFrom(now);
-        kept[n] = true;
+        image.kept = true;
         return 1;
     }
 
@@ -324,7 +301,7 @@ public final class SofaStair {
         if (image == null) {
             return OUTSIDE;
         }
-        if (!kept[n]) {
+        if (!image.kept) {
             return STATE;
         }
         now.copyFrom(image);
@@ -377,14 +354,9 @@ public final class SofaStair {
 
     private int rowAnswer(int asked, int thing, int parts, int doors, int i) {
         Thing it = now.thingAt(thing);
-        if (it == null) {
-            return UNKNOWN;
-        }
-        if (!isSet(parts) || !isSet(doors)) {
-            return OUTSIDE;
-        }
-        if (it.place < 0) {
-            return STATE;
+        int refusal = refusalOf(it, isSet(parts) && isSet(doors));
+        if (it == null || refusal != 0) {
+            return refusal;
         }
         if (answer.isNew(asked, thing, parts, doors)) {
             search.about(it);
@@ -620,8 +592,23 @@ public final class SofaStair {
         answer.forget();
     }
 
+    /** What a question about a THING that must lie is refused by; 0: it is not. */
+    private static int refusalOf(Thing it, boolean numbersAreAsTold) {
+        if (it == null) {
+            return UNKNOWN;
+        }
+        if (!numbersAreAsTold) {
+            return OUTSIDE;
+        }
+        return it.place < 0 ? STATE : 0;
+    }
+
+    private static boolean isUpTo(int what, int most) {
+        return what >= 0 && what <= most;
+    }
+
     private static boolean isSet(int set) {
-        return set >= 0 && set < SETS;
+        return isUpTo(set, SETS - 1);
     }
 
     private static boolean has(int set, int bit) {
@@ -1000,6 +987,8 @@ public final class SofaStair {
         private final Thing[] things = new Thing[THINGS];
         private final int[] doorCosts = new int[DOORS];
         private final int[] moveCosts = new int[COSTS];
+        /** Of an IMAGE: whether something was kept in it. */
+        private boolean kept;
 
         Stair() {
             for (int thing = 0; thing < THINGS; thing++) {
