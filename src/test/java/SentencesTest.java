@@ -1,0 +1,13 @@
+import java.io.IOException;
+
+/** Each sentence of the document has a test of its own; see Sentences. */
+public final class SentencesTest {
+    public static void main(String[] args) throws IOException {
+        Sentences sentences = new Sentences();
+        new WaySentences(sentences).all();
+        new GoingSentences(sentences).all();
+        new OffSentences(sentences).all();
+        sentences.allQuoted("Calls that are refused", "30 to 33 GOALS. OUTSIDE.");
+        sentences.due.end();
+    }
+}
