@@ -1,7 +1,7 @@
 import java.util.ArrayList;
 import java.util.List;
 
-/** All that can be asked of an object: two that answer alike are alike. It asks of small ways, with 512 calls at most. */
+/** All that can be asked of an object in 512 calls: two that answer alike are alike. For small ways. */
 final class Everything {
     private final Script stair;
     private final List<Integer> answers = new ArrayList<>();

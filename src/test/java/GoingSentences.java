@@ -27,7 +27,8 @@ final class GoingSentences {
     }
 
     private void lying() {
-        s.sentence("THINGS that were told lie in THE WAY, or not (not at first): from a CELL, as told or TURNED by a ROW.");
+        s.sentence("THINGS that were told lie in THE WAY, or not (not at first): from a CELL, as told or TURNED by"
+                + " a ROW.");
         s.run("say 000-100a | thing(0) | told(20) = NONE | lay(0, 0) = 1 | told(20) = 0 | CUBES(0) = 000- 100a", """
             say z | lay(0, 210) = 1 | told(20) = 210 | CUBES(0) = 000- 010a
             say Z | lay(0, 210) = 1 | CUBES(0) = 010- 000a
@@ -44,8 +45,10 @@ final class GoingSentences {
         }
         s.run("size(2, 2, 1) | say 000- | thing(0) | lay(0, 110) | GOES(0, 0, 0) = nw");
         // it comes there turned alone, or where no CUBE is at its least corner
-        s.run("size(2, 2, 1) | say 000-100- | thing(0) | lay(0, 0) | goal(0, 100) | GOES(0, 0, 0) = ze | goal(0, 10) | GOES(0, 0, 0) = s");
-        s.run("size(3, 2, 1) | say 100-010- | thing(0) | lay(0, 0) | fill(100, 100, 0) | goal(0, 100) | GOES(0, 0, 0) = e",
+        s.run("size(2, 2, 1) | say 000-100- | thing(0) | lay(0, 0) | goal(0, 100) | GOES(0, 0, 0) = ze",
+                "goal(0, 10) | GOES(0, 0, 0) = s");
+        s.run("size(3, 2, 1) | say 100-010- | thing(0) | lay(0, 0) | fill(100, 100, 0) | goal(0, 100)",
+                "GOES(0, 0, 0) = e",
                 "fill(100, 100, 1) | goes(0, 0, 0, -1) = NONE | lay(0, 0) = NO | lay(0, 100) = 1 | GOES(0, 0, 0) = .");
     }
 
@@ -62,13 +65,14 @@ final class GoingSentences {
     }
 
     private void judged() {
-        s.sentence("JUDGED: the first MOVE of a ROW (from where it lies, nothing off), by which it does not FIT, and why:"
-                + " 1 its CELL or a CUBE is beyond CELLS, 2 in a wall or a DOOR; the least.");
+        s.sentence("JUDGED: the first MOVE of a ROW (from where it lies, nothing off), by which it does not FIT,"
+                + " and why: 1 its CELL or a CUBE is beyond CELLS, 2 in a wall or a DOOR; the least.");
         s.run("size(3, 3, 2) | say 000-100a | thing(0) | lay(0, 10) | fill(200, 201, 1) | fill(220, 221, 4)", """
             JUDGED(0) = NONE | JUDGED(0) e = NONE | JUDGED(0) w = 0 1 | JUDGED(0) ee = 1 1 | JUDGED(0) uu = 1 1
             JUDGED(0) en = 1 2 | JUDGED(0) es = 1 2 | JUDGED(0) ne = 1 2 | JUDGED(0) enw = 1 2 | JUDGED(0) wn = 0 1
             JUDGED(0) ewewewewe = NONE | JUDGED(0) ewewewewen = 9 2 | JUDGED(0) y = NONE | JUDGED(0) yu = 1 1
-            JUDGED(0) z = NONE | JUDGED(0) zs = 1 1 | JUDGED(0) eZ = NONE | JUDGED(0) eZe = 2 2 | JUDGED(0) zzxXZZ = NONE
+            JUDGED(0) z = NONE | JUDGED(0) zs = 1 1 | JUDGED(0) eZ = NONE | JUDGED(0) eZe = 2 2
+            JUDGED(0) zzxXZZ = NONE
             """);
         // a CUBE in a wall and another one beyond CELLS: the least of both, whichever comes first
         s.run("size(3, 1, 1) | say 000-100- | thing(0) | lay(0, 100) | fill(200, 200, 1) | JUDGED(0) e = 0 1",
@@ -80,8 +84,8 @@ final class GoingSentences {
     }
 
     private void goes() {
-        s.sentence("GOES: the fewest MOVES from where it lies to its GOAL, PARTS of a set being off (bits), DOORS of a set"
-                + " being off; each STAND on the way FITS, the first, too;");
+        s.sentence("GOES: the fewest MOVES from where it lies to its GOAL, PARTS of a set being off (bits), DOORS"
+                + " of a set being off; each STAND on the way FITS, the first, too;");
         for (int one = 0; one < 4; one++) {
             StringBuilder parts = new StringBuilder("size(2, 1, 1) | say 000-100" + (char) ('a' + one));
             StringBuilder doors = new StringBuilder("size(2, 1, 1) | say 000- | thing(0) | lay(0, 0) | goal(0, 100)");
@@ -89,28 +93,35 @@ final class GoingSentences {
             doors.append(" | fill(100, 100, " + (2 + one) + ")");
             for (int set = 0; set < 16; set++) {
                 String moves = (set >> one & 1) == 1 ? "1" : "NONE";
-                parts.append(" | goes(0, " + set + ", 0, -1) = " + moves + " | goes(0, " + set + ", 15, -1) = " + moves);
-                doors.append(" | goes(0, 0, " + set + ", -1) = " + moves + " | goes(0, 15, " + set + ", -1) = " + moves);
+                for (int other = 0; other < 16; other += 15) {
+                    parts.append(" | goes(0, " + set + ", " + other + ", -1) = " + moves);
+                    doors.append(" | goes(0, " + other + ", " + set + ", -1) = " + moves);
+                }
             }
             s.run(parts.toString());
             s.run(doors.toString());
         }
         s.run("size(2, 1, 1) | say 000-100a | thing(0) | lay(0, 0) | GOES(0, 0, 0) = . | fill(100, 100, 2)",
-                "goes(0, 0, 0, -1) = NONE | goes(0, 0, 0, 0) = NONE | GOES(0, 1, 0) = . | GOES(0, 0, 1) = . | GOES(0, 15, 15) = .",
-                "fill(100, 100, 1) | goes(0, 0, 15, -1) = NONE | GOES(0, 1, 0) = . | fill(0, 0, 1) | goes(0, 15, 15, -1) = NONE");
+                "goes(0, 0, 0, -1) = NONE | goes(0, 0, 0, 0) = NONE | GOES(0, 1, 0) = . | GOES(0, 0, 1) = .",
+                "GOES(0, 15, 15) = .",
+                "fill(100, 100, 1) | goes(0, 0, 15, -1) = NONE | GOES(0, 1, 0) = . | fill(0, 0, 1)",
+                "goes(0, 15, 15, -1) = NONE");
         // the fewest, not the first that is found: round the wall it is nearer by s than by n
-        s.run("size(3, 4, 1) | fill(110, 120, 1) | say 000- | thing(0) | lay(0, 20) | goal(0, 220) | GOES(0, 0, 0) = seen",
+        s.run("size(3, 4, 1) | fill(110, 120, 1) | say 000- | thing(0) | lay(0, 20) | goal(0, 220)",
+                "GOES(0, 0, 0) = seen",
                 "fill(130, 130, 1) | GOES(0, 0, 0) = nneess | fill(100, 100, 1) | goes(0, 0, 0, -1) = NONE");
         s.run("size(6, 6, 4) | say 000- | thing(0) | lay(0, 0) | goal(0, 553) | GOES(0, 0, 0) = ssssseeeeeuuu",
                 "lay(0, 553) | goal(0, 0) | GOES(0, 0, 0) = nnnnnwwwwwvvv");
         longRow();
     }
 
-    /** Back and forth between walls, up through a hole, and back again: 40 MOVES are the most of a text, not of GOES. */
+    /** Back and forth between walls, up through a hole, and back: 40 MOVES are the most of a text, not of GOES. */
     private void longRow() {
-        StringBuilder calls = new StringBuilder("size(6, 6, 3) | say 000- | thing(0) | lay(0, 0) | fill(1, 551, 1) | fill(551, 551, 0)");
-        calls.append(" | fill(100, 140, 1) | fill(310, 350, 1) | fill(102, 142, 1) | fill(312, 352, 1)");
-        String row = "sssss" + "ee" + "nnnnn" + "ee" + "sssss" + "e" + "uu" + "nnnnn" + "www" + "sssss" + "ww" + "nnnnn";
+        StringBuilder calls = new StringBuilder("size(6, 6, 3) | say 000- | thing(0) | lay(0, 0)");
+        calls.append(" | fill(1, 551, 1) | fill(551, 551, 0) | fill(100, 140, 1) | fill(310, 350, 1)");
+        calls.append(" | fill(102, 142, 1) | fill(312, 352, 1)");
+        String row = "sssss" + "ee" + "nnnnn" + "ee" + "sssss" + "e" + "uu"
+                + "nnnnn" + "www" + "sssss" + "ww" + "nnnnn";
         for (int moves = 39; moves <= 42; moves++) {
             s.about(moves + " MOVES");
             String there = row.substring(0, moves);
@@ -141,14 +152,16 @@ final class GoingSentences {
 
     private static String told(String size, String walls, String thing, String turns, int cell, int goal) {
         StringBuilder calls = new StringBuilder("size(" + size + ") | say " + thing + " | thing(0)");
-        for (String wall : walls.split(" ")) if (!wall.isEmpty()) calls.append(" | fill(" + wall + ", " + wall + ", 1)");
+        for (String wall : walls.split(" ")) {
+            if (!wall.isEmpty()) calls.append(" | fill(" + wall + ", " + wall + ", 1)");
+        }
         if (!turns.isEmpty()) calls.append(" | say " + turns);
         return calls + " | lay(0, " + cell + ") = 1 | goal(0, " + goal + ")";
     }
 
     private void effort() {
-        s.sentence("EFFORT: costs of going (n s w e), lifting (u; for each CUBE that is on), letting down (v), turning"
-                + " (0 to 9 each; 1, 1, 1, 1 at first): the least sum of a ROW;");
+        s.sentence("EFFORT: costs of going (n s w e), lifting (u; for each CUBE that is on), letting down (v),"
+                + " turning (0 to 9 each; 1, 1, 1, 1 at first): the least sum of a ROW;");
         eachMoveCosts("n", 101, 0);
         eachMoveCosts("s", 121, 0);
         eachMoveCosts("w", 11, 0);
@@ -162,11 +175,13 @@ final class GoingSentences {
         eachTurnCosts("2, 2, 2", "10", "000-100-101-", "", 0, 100, "XYe");
         eachTurnCosts("2, 2, 1", "100", "000-100a", "", 0, 100, "Ze");
         for (int cubes = 1; cubes <= 9; cubes++) {
-            s.run("size(4, 4, 4) | say " + LESS_THAN_TEN.substring(0, 4 * cubes) + " | thing(0) | lay(0, 0) | goal(0, 1)",
+            s.run("size(4, 4, 4) | say " + LESS_THAN_TEN.substring(0, 4 * cubes) + " | thing(0) | lay(0, 0)",
+                    "goal(0, 1)",
                     "EFFORT(0, 0, 0) = " + cubes + " u | cost(-2, 1, 9) = 1 | EFFORT(0, 0, 0) = " + 9 * cubes + " u");
         }
         s.run("size(4, 4, 4) | say " + LESS_THAN_TEN + "210- | thing(0) = 10 | lay(0, 0) | goal(0, 3)",
-                "EFFORT(0, 0, 0) = 30 uuu | cost(-2, 1, 9) | EFFORT(0, 0, 0) = 270 uuu | cost(-2, 1, 0) | EFFORT(0, 0, 0) = 0 uuu",
+                "EFFORT(0, 0, 0) = 30 uuu | cost(-2, 1, 9) | EFFORT(0, 0, 0) = 270 uuu | cost(-2, 1, 0)",
+                "EFFORT(0, 0, 0) = 0 uuu",
                 "lay(0, 3) | goal(0, 0) | EFFORT(0, 0, 0) = 3 vvv | cost(-2, 2, 9) | EFFORT(0, 0, 0) = 27 vvv");
         // those that are off are not lifted
         s.run("size(3, 3, 2) | say 000-100a200a010b | thing(0) | lay(0, 0) | goal(0, 1) | cost(-2, 1, 5)", """
@@ -181,13 +196,21 @@ final class GoingSentences {
             fill(101, 101, 1) | EFFORT(0, 0, 0) = 54 sueenv | fill(0, 0, 3)
             effort(0, 0, 0, -1) = NONE | effort(0, 0, 0, 0) = NONE | EFFORT(0, 0, 2) = 18 ee
             """);
-        s.run("size(2, 1, 1) | say 000- | thing(0) | lay(0, 0) | EFFORT(0, 0, 0) = 0 . | goal(0, 100) | fill(100, 100, 1)",
-                "effort(0, 0, 15, -1) = NONE | effort(0, 0, 0, 0) = NONE | goal(0, 0) | fill(0, 0, 1) | effort(0, 0, 0, -1) = NONE");
+        // there is one STAND only; there is one at the GOAL, and one before it
+        s.run("size(1, 3, 4) | say " + WaySentences.TEN + " | thing(0) | lay(0, 0) | room(0, 0) = 1",
+                "EFFORT(0, 0, 0) = 0 .");
+        s.run("size(2, 3, 4) | fill(123, 123, 1) | say " + WaySentences.TEN + " | thing(0) | lay(0, 0)",
+                "room(0, 0) = 2 | EFFORT(0, 0, 0) = 0 .",
+                "goal(0, 100) | EFFORT(0, 0, 0) = 1 e | say e | move(0) = 100 | goal(0, 0) | EFFORT(0, 0, 0) = 1 w");
+        s.run("size(2, 1, 1) | say 000- | thing(0) | lay(0, 0) | EFFORT(0, 0, 0) = 0 . | goal(0, 100)",
+                "fill(100, 100, 1)",
+                "effort(0, 0, 15, -1) = NONE | effort(0, 0, 0, 0) = NONE | goal(0, 0) | fill(0, 0, 1)",
+                "effort(0, 0, 0, -1) = NONE");
     }
 
     private void eachMoveCosts(String move, int goal, int which) {
-        StringBuilder calls = new StringBuilder("size(3, 3, 3) | say 000- | thing(0) | lay(0, 111) | goal(0, " + goal + ")");
-        calls.append(" | EFFORT(0, 0, 0) = 1 " + move);
+        StringBuilder calls = new StringBuilder("size(3, 3, 3) | say 000- | thing(0) | lay(0, 111)");
+        calls.append(" | goal(0, " + goal + ") | EFFORT(0, 0, 0) = 1 " + move);
         for (int other = 0; other < 4; other++) {
             int cost = other == which ? 9 : 1;
             calls.append(" | cost(-2, " + other + ", 9) = 1 | EFFORT(0, 0, 0) = " + cost + " " + move);
@@ -205,7 +228,8 @@ final class GoingSentences {
         String before = part ? told(size, "", thing, turns, cell, goal) + " | fill(" + walls + ", " + walls + ", 1)"
                 : told(size, walls, thing, turns, cell, goal);
         String asked = "EFFORT(0, " + (part ? 1 : 0) + ", 0) = ";
-        s.run(before, asked + (turned + lifted) + " " + row, "cost(-2, 3, 9) = 1", asked + (9 * turned + lifted) + " " + row,
+        s.run(before, asked + (turned + lifted) + " " + row, "cost(-2, 3, 9) = 1",
+                asked + (9 * turned + lifted) + " " + row,
                 "cost(-2, 3, 0) = 9", asked + lifted + " " + row);
     }
 
@@ -215,8 +239,9 @@ final class GoingSentences {
             cost(-2, 1, 0) | cost(-2, 2, 2) | EFFORT(0, 0, 0) = 4 seen | fill(110, 110, 1) | EFFORT(0, 0, 0) = 4 ueev
             fill(110, 110, 0) | cost(-2, 2, 0) | cost(-2, 0, 0) | EFFORT(0, 0, 0) = 0 seen
             """);
-        // as dear, but longer: up and down for nothing beside going for 1, and 6 MOVES beside 4
-        s.run("size(3, 1, 3) | fill(100, 101, 1) | say 000- | thing(0) | lay(0, 0) | goal(0, 200) | cost(-2, 1, 0) | cost(-2, 2, 0)",
+        // there is one ROW only, whatever it costs; and no MOVE more than is needed, where all cost nothing
+        s.run("size(3, 1, 3) | fill(100, 101, 1) | say 000- | thing(0) | lay(0, 0) | goal(0, 200) | cost(-2, 1, 0)",
+                "cost(-2, 2, 0)",
                 "EFFORT(0, 0, 0) = 2 uueevv | cost(-2, 0, 0) | EFFORT(0, 0, 0) = 0 uueevv");
         s.run("size(2, 2, 2) | say 000- | thing(0) | lay(0, 0) | goal(0, 100)",
                 "cost(-2, 0, 0) | cost(-2, 1, 0) | cost(-2, 2, 0) | cost(-2, 3, 0) | EFFORT(0, 0, 0) = 0 e");
@@ -241,19 +266,21 @@ final class GoingSentences {
     }
 
     private void comesTo() {
-        s.sentence("COMES TO: how many STANDS it can come to from where it lies, that one, too (nothing off; 0, if it does not"
-                + " FIT there any more).");
+        s.sentence("COMES TO: how many STANDS it can come to from where it lies, that one, too (nothing off; 0, if"
+                + " it does not FIT there any more).");
         // it can not stir: that one alone
         s.run("size(4, 3, 1) | say 000-100-200-300-010-020-120-320- | thing(0) | lay(0, 0) | room(0, 0) = 1");
-        s.run("size(2, 1, 1) | say 000-100a | thing(0) | lay(0, 0) | room(0, 0) = 4 | fill(100, 100, 2) | room(0, 0) = 0",
-                "fill(100, 100, 1) | room(0, 0) = 0 | fill(100, 100, 0) | fill(0, 0, 5) | room(0, 0) = 0 | fill(0, 0, 0) | room(0, 0) = 4");
+        s.run("size(2, 1, 1) | say 000-100a | thing(0) | lay(0, 0) | room(0, 0) = 4 | fill(100, 100, 2)",
+                "room(0, 0) = 0",
+                "fill(100, 100, 1) | room(0, 0) = 0 | fill(100, 100, 0) | fill(0, 0, 5) | room(0, 0) = 0",
+                "fill(0, 0, 0) | room(0, 0) = 4");
         s.run("size(3, 1, 1) | say 000- | thing(0) | lay(0, 0) | room(0, 0) = 72 | fill(100, 100, 4) | room(0, 0) = 24",
                 "fill(100, 100, 0) | fill(200, 200, 1) | room(0, 0) = 48 | goal(0, 200) | room(0, 0) = 48");
     }
 
     private void scrapes() {
-        s.sentence("SCRAPES of where it lies: faces of its CUBES against a wall, a DOOR or beyond CELLS, those below its CUBES"
-                + " and those between two of its own not.");
+        s.sentence("SCRAPES of where it lies: faces of its CUBES against a wall, a DOOR or beyond CELLS, those"
+                + " below its CUBES and those between two of its own not.");
         String wide = "000-200-110-310-020-220-130-330-101-301-";
         s.run("size(6, 6, 4) | say " + wide + " | thing(0) = 10 | lay(0, 111) | room(0, 1) = 0");
         StringBuilder calls = new StringBuilder("size(4, 4, 2) | fill(0, 331, 1) = 32 | say " + wide + " | thing(0)");
@@ -269,16 +296,20 @@ final class GoingSentences {
             for (int beside : new int[] {11, 211, 101, 121, 112}) {
                 s.run(middle, "fill(" + beside + ", " + beside + ", " + kind + ") | room(0, 1) = " + one);
             }
-            s.run(middle, "fill(110, 110, " + kind + ") | room(0, 1) = 0 | fill(0, 222, " + kind + ") | room(0, 1) = " + 5 * one);
+            s.run(middle, "fill(110, 110, " + kind + ") | room(0, 1) = 0 | fill(0, 222, " + kind + ")",
+                    "room(0, 1) = " + 5 * one);
         }
         // two of its own side by side, one upon the other, and corner to corner with a wall between
-        s.run("size(2, 1, 1) | say 000-100- | thing(0) | lay(0, 0) | room(0, 1) = 8 | fill(0, 100, 1) | room(0, 1) = 8");
+        s.run("size(2, 1, 1) | say 000-100- | thing(0) | lay(0, 0) | room(0, 1) = 8 | fill(0, 100, 1)",
+                "room(0, 1) = 8");
         s.run("size(1, 2, 1) | say 000-010- | thing(0) | lay(0, 0) | room(0, 1) = 8 | fill(0, 10, 1) | room(0, 1) = 8");
         s.run("size(1, 1, 2) | say 000-001- | thing(0) | lay(0, 0) | room(0, 1) = 9 | fill(0, 1, 1) | room(0, 1) = 9");
         s.run("size(2, 2, 1) | say 000-110- | thing(0) | lay(0, 0) | room(0, 1) = 6 | fill(10, 10, 1) | room(0, 1) = 8",
-                "fill(100, 100, 5) | room(0, 1) = 10 | fill(10, 10, 0) | fill(100, 100, 0) | say z | move(0) | room(0, 1) = 6");
+                "fill(100, 100, 5) | room(0, 1) = 10 | fill(10, 10, 0) | fill(100, 100, 0) | say z | move(0)",
+                "room(0, 1) = 6");
         // PARTS are on; below a CUBE that stands out nothing counts
-        s.run("size(2, 1, 2) | say 000-001a101b | thing(0) | lay(0, 0) | room(0, 1) = 11 | fill(100, 100, 1) | room(0, 1) = 12");
+        s.run("size(2, 1, 2) | say 000-001a101b | thing(0) | lay(0, 0) | room(0, 1) = 11 | fill(100, 100, 1)",
+                "room(0, 1) = 12");
     }
 
     private void turnable() {
@@ -290,35 +321,46 @@ final class GoingSentences {
         s.run("size(3, 3, 1) | say 000-100- | thing(0) | lay(0, 0) | room(0, 2) = 4 | fill(0, 0, 1) | room(0, 2) = 3",
                 "fill(0, 0, 0) | fill(220, 220, 3) | room(0, 2) = 4 | fill(120, 120, 3) | room(0, 2) = 3");
         // upright it is turned everywhere, and how it was told does not matter
-        s.run("size(3, 3, 2) | say 000-100a | thing(0) | lay(0, 0) | room(0, 2) = 8 | say y | lay(0, 0) | room(0, 2) = 9",
+        s.run("size(3, 3, 2) | say 000-100a | thing(0) | lay(0, 0) | room(0, 2) = 8 | say y | lay(0, 0)",
+                "room(0, 2) = 9",
                 "fill(221, 221, 5) | room(0, 2) = 8 | say z | lay(0, 0) | room(0, 2) = 8");
         // each of the four ways hinders where it alone does not FIT
-        for (String cell : new String[] {"0", "10", "100", "110"}) {
-            s.run("size(3, 2, 1) | say 000-100-010- | thing(0) | lay(0, 100) | room(0, 2) = 2",
-                    "fill(" + cell + ", " + cell + ", 1) | room(0, 2) = " + (cell.startsWith("1") && cell.length() == 3 ? 0 : 1));
+        String[] bent = {"000-100-200-210-", "000-100-200-210-", "000-100-200-010-", "000-100-200-010-"};
+        int[] needed = {200, 120, 210, 20};
+        for (int way = 0; way < 4; way++) {
+            s.about("the way after " + way + " TURNS");
+            s.run("size(3, 3, 1) | say " + bent[way] + " | thing(0) | lay(0, 0) | room(0, 2) = 1",
+                    "fill(" + needed[way] + ", " + needed[way] + ", 1) | room(0, 2) = 0");
         }
     }
 
     private void promises11And12() {
-        s.sentence("`int lay(int thing, int cell)`: A THING lies at a CELL, as told and then TURNED by the ROW on the PAD (TURNS"
-                + " alone; it is empty then): 1. UNKNOWN; STATE: it was not told; NO: a FAULT, or another MOVE than a TURN; it"
-                + " does not FIT.");
+        s.sentence("`int lay(int thing, int cell)`: A THING lies at a CELL, as told and then TURNED by the ROW on"
+                + " the PAD (TURNS alone; it is empty then): 1. UNKNOWN; STATE: it was not told; NO: a FAULT, or"
+                + " another MOVE than a TURN; it does not FIT.");
         s.run(SCENE + "say xyzXYZ", "lay(2, 0) = 1 | told(0) = 0 | told(22) = 0 | lay(2, 200) = 1 | told(22) = 200",
                 "say zz | lay(0, 0) = 1 | told(0) = 0 | CUBES(0) = 100- 000a | lay(0, 0) = 1 | CUBES(0) = 000- 100a");
         s.refused(SCENE, """
             lay(-1, 0) = UNKNOWN | lay(4, 0) = UNKNOWN | lay(MIN, 0) = UNKNOWN | lay(MAX, 0) = UNKNOWN
-            lay(0, -1) = UNKNOWN | lay(0, 300) = UNKNOWN | lay(0, 20) = UNKNOWN | lay(0, 1) = UNKNOWN | lay(3, 300) = UNKNOWN
-            lay(0, MIN) = UNKNOWN | lay(0, MAX) = UNKNOWN | lay(-1, -1) = UNKNOWN | lay(3, 0) = STATE | lay(3, 210) = STATE
+            lay(0, -1) = UNKNOWN | lay(0, 300) = UNKNOWN | lay(0, 20) = UNKNOWN | lay(0, 1) = UNKNOWN
+            lay(3, 300) = UNKNOWN
+            lay(0, MIN) = UNKNOWN | lay(0, MAX) = UNKNOWN | lay(-1, -1) = UNKNOWN | lay(3, 0) = STATE
+            lay(3, 210) = STATE
             lay(0, 200) = NO | lay(0, 210) = NO | lay(0, 110) = NO | lay(2, 210) = NO
             """);
-        for (String pad : new String[] {"!", "z!", "n", "s", "w", "e", "u", "v", "zn", "nz", "xyzXYZe", "000-", "y", "z".repeat(41)}) {
-            s.refused(SCENE + "say " + pad, "lay(4, 0) = UNKNOWN | lay(0, 300) = UNKNOWN | lay(3, 1) = UNKNOWN | lay(3, 0) = STATE",
+        String[] pads = {"!", "z!", "n", "s", "w", "e", "u", "v", "zn", "nz", "xyzXYZe", "000-", "y", "z".repeat(41)};
+        for (String pad : pads) {
+            s.refused(SCENE + "say " + pad,
+                    "lay(4, 0) = UNKNOWN | lay(0, 300) = UNKNOWN | lay(3, 1) = UNKNOWN | lay(3, 0) = STATE",
                     "lay(0, 0) = NO | lay(0, 200) = NO");
         }
-        s.refused(SCENE + "say z", "lay(0, 10) = NO | lay(0, 200) = NO | lay(1, 110) = NO | lay(1, 200) = NO | lay(3, 0) = STATE | lay(2, 210) = NO");
+        s.refused(SCENE + "say z",
+                "lay(0, 10) = NO | lay(0, 200) = NO | lay(1, 110) = NO | lay(1, 200) = NO | lay(3, 0) = STATE",
+                "lay(2, 210) = NO");
 
         s.sentence("`int goal(int thing, int cell)`: Its GOAL: which it was. UNKNOWN.");
-        s.run(SCENE, "goal(0, 210) = 100 | goal(0, 0) = 210 | goal(3, 210) = 0 | goal(3, 10) = 210 | goal(2, 200) = 0 | told(32) = 200",
+        s.run(SCENE, "goal(0, 210) = 100 | goal(0, 0) = 210 | goal(3, 210) = 0 | goal(3, 10) = 210",
+                "goal(2, 200) = 0 | told(32) = 200",
                 "fill(0, 0, 1) | goal(1, 0) = 0 | goal(1, 210) = 0 | told(31) = 210 | goal(1, 210) = 210");
         s.refused(SCENE, """
             goal(-1, 0) = UNKNOWN | goal(4, 0) = UNKNOWN | goal(MIN, 0) = UNKNOWN | goal(MAX, 0) = UNKNOWN
@@ -328,31 +370,47 @@ final class GoingSentences {
     }
 
     private void promises13And14() {
-        s.sentence("`int judge(int thing, int what)`: The ROW on the PAD JUDGED: the MOVE (what = 0), why (1); NONE. UNKNOWN;"
-                + " OUTSIDE; STATE: it does not lie; NO: there is a FAULT.");
-        s.run(SCENE, "judge(0, 0) = NONE | judge(0, 1) = NONE | say s | judge(0, 0) = NONE | say e | judge(0, 0) = 1 | judge(0, 1) = 2",
+        s.sentence("`int judge(int thing, int what)`: The ROW on the PAD JUDGED: the MOVE (what = 0), why (1);"
+                + " NONE. UNKNOWN; OUTSIDE; STATE: it does not lie; NO: there is a FAULT.");
+        s.run(SCENE, "judge(0, 0) = NONE | judge(0, 1) = NONE | say s | judge(0, 0) = NONE | say e",
+                "judge(0, 0) = 1 | judge(0, 1) = 2",
                 "told(0) = 2 | told(20) = 0 | say n | judge(0, 0) = 1 | judge(1, 0) = 0 | judge(1, 1) = 2");
         for (String pad : new String[] {"!", "n!", "000-010c", "z".repeat(41)}) {
             s.refused(SCENE + "say " + pad, """
-                judge(-1, 0) = UNKNOWN | judge(4, 0) = UNKNOWN | judge(4, 2) = UNKNOWN | judge(3, 2) = OUTSIDE | judge(2, -1) = OUTSIDE
+                judge(-1, 0) = UNKNOWN | judge(4, 0) = UNKNOWN | judge(4, 2) = UNKNOWN | judge(3, 2) = OUTSIDE
+                judge(2, -1) = OUTSIDE
                 judge(0, 2) = OUTSIDE | judge(3, 0) = STATE | judge(2, 1) = STATE | judge(0, 0) = NO | judge(1, 1) = NO
                 """);
         }
         s.refused(SCENE + "say e", """
             judge(MIN, 0) = UNKNOWN | judge(MAX, MAX) = UNKNOWN | judge(0, -1) = OUTSIDE | judge(0, 2) = OUTSIDE
-            judge(1, MIN) = OUTSIDE | judge(1, MAX) = OUTSIDE | judge(2, 2) = OUTSIDE | judge(2, 0) = STATE | judge(3, 1) = STATE
+            judge(1, MIN) = OUTSIDE | judge(1, MAX) = OUTSIDE | judge(2, 2) = OUTSIDE | judge(2, 0) = STATE
+            judge(3, 1) = STATE
             """);
 
-        s.sentence("`int move(int thing)`: The ROW on the PAD is done (it is empty then): the CELL where it is. UNKNOWN; STATE,"
-                + " NO, likewise: also a MOVE that can not be.");
-        s.run(SCENE, "move(0) = 0 | say s | move(0) = 10 | told(0) = 0 | told(20) = 10 | say nzz | move(0) = 0 | CUBES(0) = 100- 000a",
-                "say zz | move(0) = 0 | CUBES(0) = 000- 100a | say xyzXYZ | move(2) = STATE | wipe() = 6 | told(30) = 100");
-        // where it is turned stays, and is turned further
-        s.run("size(3, 3, 1) | say 000-100-110- | thing(0) | say z | lay(0, 0) | CUBES(0) = 100- 110- 010- | say z | move(0) = 0",
-                "CUBES(0) = 110- 010- 000- | say ze | move(0) = 100 | CUBES(0) = 010- 000- 100- | say Zs | move(0) = 110");
-        s.refused(SCENE, "move(-1) = UNKNOWN | move(4) = UNKNOWN | move(MIN) = UNKNOWN | move(MAX) = UNKNOWN | move(2) = STATE | move(3) = STATE");
-        for (String pad : new String[] {"!", "s!", "n", "w", "u", "v", "ss", "se", "sen", "sene", "y", "sz", "zs", "sn".repeat(20) + "s", "000-010c"}) {
-            s.refused(SCENE + "say " + pad, "move(0) = NO | move(2) = STATE | move(3) = STATE | move(4) = UNKNOWN | move(-1) = UNKNOWN");
+        s.sentence("`int move(int thing)`: The ROW on the PAD is done (it is empty then): the CELL where it is."
+                + " UNKNOWN; STATE, NO, likewise: also a MOVE that can not be.");
+        s.run(SCENE, "move(0) = 0 | say s | move(0) = 10 | told(0) = 0 | told(20) = 10 | say nzz | move(0) = 0",
+                "CUBES(0) = 100- 000a",
+                "say zz | move(0) = 0 | CUBES(0) = 000- 100a | say xyzXYZ | move(2) = STATE | wipe() = 6",
+                "told(30) = 100");
+        // what is asked after it is asked of where it is then
+        s.run(SCENE, "GOES(0, 0, 0) = e | say e | move(0) = 100 | GOES(0, 0, 0) = . | say ws | move(0) = 10",
+                "GOES(0, 0, 0) = ne",
+                "EFFORT(0, 0, 0) = 2 ne | say n | move(0) = 0 | EFFORT(0, 0, 0) = 1 e");
+        // how it was turned stays, and is turned further
+        s.run("size(3, 3, 1) | say 000-100-110- | thing(0) | say z | lay(0, 0) | CUBES(0) = 100- 110- 010- | say z",
+                "move(0) = 0",
+                "CUBES(0) = 110- 010- 000- | say ze | move(0) = 100 | CUBES(0) = 010- 000- 100- | say Zs",
+                "move(0) = 110");
+        s.refused(SCENE,
+                "move(-1) = UNKNOWN | move(4) = UNKNOWN | move(MIN) = UNKNOWN | move(MAX) = UNKNOWN",
+                "move(2) = STATE | move(3) = STATE");
+        String[] pads = {"!", "s!", "n", "w", "u", "v", "ss", "se", "sen", "sene", "y", "sz", "zs",
+            "sn".repeat(20) + "s", "000-010c"};
+        for (String pad : pads) {
+            s.refused(SCENE + "say " + pad,
+                    "move(0) = NO | move(2) = STATE | move(3) = STATE | move(4) = UNKNOWN | move(-1) = UNKNOWN");
         }
     }
 
@@ -365,25 +423,38 @@ final class GoingSentences {
             (2, 16, 0, -1) = OUTSIDE | (3, 0, 16, -1) = OUTSIDE | (3, -1, 0, 99) = OUTSIDE | (0, 256, 0, -1) = OUTSIDE
             (2, 0, 0, -1) = STATE | (3, 0, 0, -1) = STATE | (2, 15, 15, 0) = STATE | (3, 15, 15, MIN) = STATE
             """;
-        s.sentence("`int goes(int thing, int parts, int doors, int i)`: GOES: MOVES (i = -1), the i-th (its sign); NONE. UNKNOWN;"
-                + " OUTSIDE: sets 0 to 15; STATE: it does not lie.");
+        s.sentence("`int goes(int thing, int parts, int doors, int i)`: GOES: MOVES (i = -1), the i-th (its sign);"
+                + " NONE. UNKNOWN; OUTSIDE: sets 0 to 15; STATE: it does not lie.");
         s.run(SCENE, """
             GOES(0, 0, 0) = e | GOES(0, 15, 15) = e | goes(0, 1, 0, 0) = 'e' | GOES(1, 0, 0) = w
             goal(0, 10) | GOES(0, 0, 0) = s | GOES(0, 15, 15) = s | goal(0, 0) | GOES(0, 0, 0) = .
             goal(0, 210) | goes(0, 0, 0, -1) = NONE | goes(0, 0, 0, 0) = NONE | goes(0, 0, 0, -2) = NONE
             goes(0, 1, 0, -1) = NONE | goes(0, 0, 1, -1) = NONE | GOES(0, 1, 1) = see
             """);
+        // one set is not taken for another one, nor a THING, nor what is asked
+        s.run("size(2, 1, 1) | say 000-100a | thing(0) | lay(0, 0) | goal(0, 100) | say 000- | thing(1)",
+                "lay(1, 0)", """
+            goes(0, 0, 1, -1) = NONE | GOES(0, 1, 0) = e | goes(0, 0, 1, 0) = NONE | goes(0, 2, 0, -1) = NONE
+            GOES(0, 1, 1) = e
+            effort(0, 0, 1, -1) = NONE | cost(-2, 0, 5) | EFFORT(0, 1, 0) = 5 e | effort(0, 0, 1, 0) = NONE
+            GOES(0, 1, 0) = e
+            EFFORT(0, 1, 0) = 5 e | GOES(1, 1, 0) = . | GOES(0, 1, 0) = e | EFFORT(1, 1, 0) = 0 .
+            EFFORT(0, 1, 0) = 5 e
+            """);
         s.refused(SCENE + "say 000-010c", refusals.replace("(", "goes("));
 
-        s.sentence("`int effort(int thing, int parts, int doors, int i)`: EFFORT: the sum (i = -1), the i-th MOVE; NONE. UNKNOWN;"
-                + " OUTSIDE, STATE, likewise.");
-        s.run(SCENE, "EFFORT(0, 0, 0) = 1 e | EFFORT(0, 15, 15) = 1 e | cost(-2, 0, 7) | EFFORT(0, 0, 0) = 7 e | effort(0, 0, 0, 0) = 'e'",
-                "goal(0, 0) | EFFORT(0, 0, 0) = 0 . | goal(0, 210) | effort(0, 0, 0, -1) = NONE | effort(0, 0, 0, 0) = NONE");
+        s.sentence("`int effort(int thing, int parts, int doors, int i)`: EFFORT: the sum (i = -1), the i-th MOVE;"
+                + " NONE. UNKNOWN; OUTSIDE, STATE, likewise.");
+        s.run(SCENE, "EFFORT(0, 0, 0) = 1 e | EFFORT(0, 15, 15) = 1 e | cost(-2, 0, 7) | EFFORT(0, 0, 0) = 7 e",
+                "effort(0, 0, 0, 0) = 'e'",
+                "goal(0, 0) | EFFORT(0, 0, 0) = 0 . | goal(0, 210) | effort(0, 0, 0, -1) = NONE",
+                "effort(0, 0, 0, 0) = NONE");
         s.refused(SCENE + "say 000-010c", refusals.replace("(", "effort("));
 
-        s.sentence("`int room(int thing, int what)`: COMES TO (what = 0), SCRAPES (1), TURNABLE: how many CELLS (2). UNKNOWN;"
-                + " OUTSIDE; STATE: it does not lie.");
-        s.run("size(3, 2, 1) | say 000-100- | thing(0) | lay(0, 0) | room(0, 0) = 56 | room(0, 1) = 5 | room(0, 2) = 2");
+        s.sentence("`int room(int thing, int what)`: COMES TO (what = 0), SCRAPES (1), TURNABLE: how many CELLS"
+                + " (2). UNKNOWN; OUTSIDE; STATE: it does not lie.");
+        s.run("size(3, 2, 1) | say 000-100- | thing(0) | lay(0, 0) | room(0, 0) = 56 | room(0, 1) = 5",
+                "room(0, 2) = 2");
         s.refused(SCENE + "say 000-010c", """
             room(-1, 0) = UNKNOWN | room(4, 0) = UNKNOWN | room(MIN, 3) = UNKNOWN | room(MAX, -1) = UNKNOWN
             room(0, -1) = OUTSIDE | room(0, 3) = OUTSIDE | room(1, MIN) = OUTSIDE | room(1, MAX) = OUTSIDE

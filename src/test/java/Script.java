@@ -104,7 +104,9 @@ final class Script {
 
     private void answers(String line, String name, int thing, int count, String want) {
         String[] each = want.split(" ");
-        for (int what = 0; what < count; what++) is(line, call(name, thing, what), each[Math.min(what, each.length - 1)]);
+        for (int what = 0; what < count; what++) {
+            is(line, call(name, thing, what), each[Math.min(what, each.length - 1)]);
+        }
     }
 
     private void order(String line, int set, String[] want) {

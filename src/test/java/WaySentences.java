@@ -95,8 +95,8 @@ final class WaySentences {
     }
 
     private void kinds() {
-        s.sentence("Each is of a KIND: 0 free (all at first), 1 wall, 2 to 5: DOORS 0 to 3"
-                + " (as walls, but where that DOOR is off).");
+        s.sentence("Each is of a KIND: 0 free (all at first), 1 wall, 2 to 5: DOORS 0 to 3 (as walls, but where"
+                + " that DOOR is off).");
         s.run("""
             size(6, 1, 1)
             fill(0, 0, 0) = 1 | fill(100, 100, 1) = 1 | fill(200, 200, 2) = 1
@@ -153,7 +153,8 @@ final class WaySentences {
     }
 
     private void things() {
-        s.sentence("THINGS 0 to 3: CUBES, 10 at most, at x, y, z (0 to 3 each), each of the body or of a PART 0 to 3.");
+        s.sentence("THINGS 0 to 3: CUBES, 10 at most, at x, y, z (0 to 3 each), each of the body or of a PART 0 to"
+                + " 3.");
         s.run("""
             thing(-1) = UNKNOWN | thing(4) = UNKNOWN | thing(MIN) = UNKNOWN | thing(MAX) = UNKNOWN
             say 000- | thing(0) = 1 | say 000-100- | thing(1) = 2
@@ -201,9 +202,11 @@ final class WaySentences {
         for (char sign = 33; sign <= 126; sign++) {
             boolean digit = sign >= '0' && sign <= '3', part = sign == '-' || sign >= 'a' && sign <= 'd';
             s.run("FAULT(0) " + sign + " = " + (digit ? 1 : 0), "FAULT(0) 0" + sign + " = " + (digit ? 2 : 1),
-                    "FAULT(0) 00" + sign + " = " + (digit ? 3 : 2), "FAULT(0) 000" + sign + " = " + (sign == '-' ? "NONE" : 3),
+                    "FAULT(0) 00" + sign + " = " + (digit ? 3 : 2),
+                    "FAULT(0) 000" + sign + " = " + (sign == '-' ? "NONE" : 3),
                     "FAULT(0) 000-" + sign + " = " + (digit ? 5 : 4), "FAULT(0) 000-1" + sign + " = " + (digit ? 6 : 5),
-                    "FAULT(0) 000-12" + sign + " = " + (digit ? 7 : 6), "FAULT(0) 000-123" + sign + " = " + (part ? "NONE" : 7));
+                    "FAULT(0) 000-12" + sign + " = " + (digit ? 7 : 6),
+                    "FAULT(0) 000-123" + sign + " = " + (part ? "NONE" : 7));
         }
 
         s.sentence("no CUBE twice (the third digit of one that is there can not stand)");
@@ -238,7 +241,8 @@ final class WaySentences {
         s.run("size(2, 1, 1) | say 000- | thing(0) | lay(0, 0) = 1",
                 "JUDGED(0) " + many + "n = 39 1 | JUDGED(0) " + many + "e = NONE | JUDGED(0) " + many + "en = NO",
                 "say " + many + "e | move(0) = 100 | say " + many + "zw | move(0) = NO | wipe() = 41 | told(20) = 100",
-                "say " + many + "z | lay(0, 0) = 1 | say " + many + "zz | lay(0, 100) = NO | wipe() = 41 | told(20) = 0");
+                "say " + many + "z | lay(0, 0) = 1 | say " + many + "zz | lay(0, 100) = NO | wipe() = 41",
+                "told(20) = 0");
 
         s.sentence("n (y 1 less), s (y 1 more), w (x 1 less), e (x 1 more), u (z 1 more), v (z 1 less), and TURNS:"
                 + " x, y, z about that axis, X, Y, Z the other way round.");
@@ -256,8 +260,8 @@ final class WaySentences {
     }
 
     private void theFault() {
-        s.sentence("THE FAULT (how: 0 THING, 1 ROW): the place (from 0 on) of the first sign that can not stand there,"
-                + " or the number of signs, if more must come, or if some least number is not 0.");
+        s.sentence("THE FAULT (how: 0 THING, 1 ROW): the place (from 0 on) of the first sign that can not stand"
+                + " there, or the number of signs, if more must come, or if some least number is not 0.");
         s.run("""
             fault(-1) = OUTSIDE | fault(2) = OUTSIDE | fault(0) = 0 | fault(1) = NONE
             FAULT(0) 0 = 1 | FAULT(0) 00 = 2 | FAULT(0) 000 = 3 | FAULT(0) 000- = NONE
@@ -272,9 +276,9 @@ final class WaySentences {
     }
 
     private void turns() {
-        s.sentence("A TURN of a THING: z: x becomes less y, y becomes x; x: y becomes less z, z becomes y; y: z becomes"
-                + " less x, x becomes z; then all is pushed so that its least x, y, z (of all CUBES, those taken off, too)"
-                + " are 0 again.");
+        s.sentence("A TURN of a THING: z: x becomes less y, y becomes x; x: y becomes less z, z becomes y; y: z"
+                + " becomes less x, x becomes z; then all is pushed so that its least x, y, z (of all CUBES, those"
+                + " taken off, too) are 0 again.");
         s.run("size(6, 6, 4) | say 000-300a020b001c | thing(0) | CUBES(0) = 000- 300a 020b 001c", """
             say z | lay(0, 0) | CUBES(0) = 200- 230a 000b 201c
             say x | lay(0, 0) | CUBES(0) = 010- 310a 012b 000c
@@ -299,7 +303,8 @@ final class WaySentences {
         }
         for (String turn : new String[] {"x", "y", "z"}) {
             String back = turn.toUpperCase();
-            String same = turn.equals("x") ? "010- 310a 012b 000c" : turn.equals("y") ? "003- 000a 023b 103c" : "200- 230a 000b 201c";
+            String same = turn.equals("x") ? "010- 310a 012b 000c"
+                    : turn.equals("y") ? "003- 000a 023b 103c" : "200- 230a 000b 201c";
             s.run("size(6, 6, 4) | say 000-300a020b001c | thing(0)",
                     "say " + back + back + back + " | lay(0, 0) | CUBES(0) = " + same,
                     "say " + turn.repeat(5) + " | lay(0, 0) | CUBES(0) = " + same);
@@ -307,18 +312,20 @@ final class WaySentences {
     }
 
     private void stands() {
-        s.sentence("A STAND of it: a CELL (where its least corner is) and how it is turned (24 ways, each for itself,"
-                + " also where CUBES come to lie alike by two of them; as told first).");
+        s.sentence("A STAND of it: a CELL (where its least corner is) and how it is turned (24 ways, each for"
+                + " itself, also where CUBES come to lie alike by two of them; as told first).");
         s.run("size(1, 1, 1) | say 000- | thing(0) | CUBES(0) = 000- | lay(0, 0) | room(0, 0) = 24");
         s.run("size(6, 6, 4) | say 000- | thing(0) | lay(0, 0) | room(0, 0) = 3456");
         s.run("size(4, 4, 4) | say 000-333- | thing(0) | lay(0, 0) | room(0, 0) = 24");
-        s.run("size(3, 1, 1) | say 000-100-200- | thing(0) | lay(0, 0) | room(0, 0) = 4 | fill(0, 0, 1) | room(0, 0) = 0");
+        s.run("size(3, 1, 1) | say 000-100-200- | thing(0) | lay(0, 0) | room(0, 0) = 4 | fill(0, 0, 1)",
+                "room(0, 0) = 0");
         // the CELL is where the least corner is, whether a CUBE is there or not
         s.run("size(2, 2, 1) | say 100-010- | thing(0) | lay(0, 0) = 1 | told(20) = 0 | cube(0, 0, 0) = 1");
 
-        s.sentence("It FITS, if where its least corner is there is a CELL, and each CUBE that is not taken off lies in one"
-                + " that is free (or a DOOR that is off).");
-        s.run("size(2, 2, 1) | fill(0, 0, 1) | say 100-010- | thing(0) | lay(0, 0) = 1 | room(0, 0) = 1 | goes(0, 0, 0, -1) = 0");
+        s.sentence("It FITS, if where its least corner is there is a CELL, and each CUBE that is not taken off lies"
+                + " in one that is free (or a DOOR that is off).");
+        s.run("size(2, 2, 1) | fill(0, 0, 1) | say 100-010- | thing(0) | lay(0, 0) = 1 | room(0, 0) = 1",
+                "goes(0, 0, 0, -1) = 0");
         s.run("size(2, 1, 1) | say 000-100a | thing(0) | lay(0, 0) | fill(100, 100, 5)",
                 "goes(0, 0, 0, -1) = NONE | goes(0, 1, 0, -1) = 0 | goes(0, 0, 8, -1) = 0 | goes(0, 2, 7, -1) = NONE",
                 "fill(0, 0, 2) | goes(0, 1, 0, -1) = NONE | goes(0, 1, 1, -1) = 0 | goes(0, 0, 9, -1) = 0",
@@ -335,15 +342,18 @@ final class WaySentences {
         s.sentence("`SofaStair()`: All CELLS are free, no THING was told.");
         StringBuilder free = new StringBuilder();
         for (int i = 0; i < 72; i++) free.append("cell(" + (100 * (i / 12) + 10 * (i / 2 % 6) + i % 2) + ") = 0\n");
-        s.run(free.toString(), "told(0) = 0 | fault(0) = 0 | fault(1) = NONE | wipe() = 0 | bar(0) = STATE | order(15, 0) = STATE");
+        s.run(free.toString(), "told(0) = 0 | fault(0) = 0 | fault(1) = NONE | wipe() = 0 | bar(0) = STATE",
+                "order(15, 0) = STATE");
         for (int thing = 0; thing < 4; thing++) {
             s.run("told(1" + thing + ") = 0 | told(2" + thing + ") = NONE | told(3" + thing + ") = 0",
-                    "cube(" + thing + ", 0, 0) = UNKNOWN | lay(" + thing + ", 0) = STATE | judge(" + thing + ", 0) = STATE",
-                    "move(" + thing + ") = STATE | goes(" + thing + ", 0, 0, -1) = STATE | room(" + thing + ", 0) = STATE");
+                    "cube(" + thing + ", 0, 0) = UNKNOWN | lay(" + thing + ", 0) = STATE",
+                    "judge(" + thing + ", 0) = STATE",
+                    "move(" + thing + ") = STATE | goes(" + thing + ", 0, 0, -1) = STATE",
+                    "room(" + thing + ", 0) = STATE");
         }
 
-        s.sentence("`int size(int x, int y, int z)`: X, Y, Z: CELLS in all. All are free then, no THING lies, GOALS are 0."
-                + " OUTSIDE.");
+        s.sentence("`int size(int x, int y, int z)`: X, Y, Z: CELLS in all. All are free then, no THING lies, GOALS"
+                + " are 0. OUTSIDE.");
         s.run(SCENE + "say zz", """
             fill(0, 210, 1) = 6 | size(3, 2, 1) = 6
             cell(0) = 0 | cell(10) = 0 | cell(100) = 0 | cell(110) = 0 | cell(200) = 0 | cell(210) = 0
@@ -358,8 +368,9 @@ final class WaySentences {
             size(6, 6, -4) = OUTSIDE | size(6, -6, 4) = OUTSIDE | size(-6, 6, 4) = OUTSIDE
             """);
 
-        s.sentence("`int fill(int from, int to, int kind)`: All CELLS between two corners (both, too) are of a KIND: how"
-                + " many. UNKNOWN: the corners; OUTSIDE: the KIND; a corner is not before the other one in each direction.");
+        s.sentence("`int fill(int from, int to, int kind)`: All CELLS between two corners (both, too) are of a"
+                + " KIND: how many. UNKNOWN: the corners; OUTSIDE: the KIND; a corner is not before the other one"
+                + " in each direction.");
         s.run("""
             size(4, 4, 4) = 64 | fill(111, 222, 3) = 8
             cell(111) = 3 | cell(222) = 3 | cell(112) = 3 | cell(221) = 3 | cell(211) = 3 | cell(122) = 3
@@ -370,21 +381,28 @@ final class WaySentences {
             size(1, 1, 1) = 1 | fill(0, 0, 1) = 1 | size(6, 6, 4) = 144 | fill(0, 553, 1) = 144
             """);
         // the THING is in a wall then, lies there all the same, and comes free again
-        s.run("size(2, 1, 1) | say 000- | thing(0) | lay(0, 0) | room(0, 0) = 48 | fill(0, 0, 1) | told(20) = 0 | room(0, 0) = 0",
+        s.run("size(2, 1, 1) | say 000- | thing(0) | lay(0, 0) | room(0, 0) = 48 | fill(0, 0, 1) | told(20) = 0",
+                "room(0, 0) = 0",
                 "fill(0, 0, 0) | room(0, 0) = 48");
         s.refused(SCENE + "say 000-010c", """
-            fill(-1, 0, 1) = UNKNOWN | fill(0, -1, 1) = UNKNOWN | fill(300, 210, 1) = UNKNOWN | fill(0, 300, 1) = UNKNOWN
+            fill(-1, 0, 1) = UNKNOWN | fill(0, -1, 1) = UNKNOWN | fill(300, 210, 1) = UNKNOWN
+            fill(0, 300, 1) = UNKNOWN
             fill(0, 20, 1) = UNKNOWN | fill(0, 1, 1) = UNKNOWN | fill(MIN, MAX, 1) = UNKNOWN | fill(0, 211, 1) = UNKNOWN
-            fill(-1, 0, 6) = UNKNOWN | fill(300, 0, -1) = UNKNOWN | fill(210, 1, 9) = UNKNOWN | fill(300, 300, 1) = UNKNOWN
-            fill(0, 210, -1) = OUTSIDE | fill(0, 210, 6) = OUTSIDE | fill(0, 0, MIN) = OUTSIDE | fill(0, 0, MAX) = OUTSIDE
-            fill(100, 10, 1) = OUTSIDE | fill(10, 100, 1) = OUTSIDE | fill(210, 0, 1) = OUTSIDE | fill(110, 200, 6) = OUTSIDE
+            fill(-1, 0, 6) = UNKNOWN | fill(300, 0, -1) = UNKNOWN | fill(210, 1, 9) = UNKNOWN
+            fill(300, 300, 1) = UNKNOWN
+            fill(0, 210, -1) = OUTSIDE | fill(0, 210, 6) = OUTSIDE | fill(0, 0, MIN) = OUTSIDE
+            fill(0, 0, MAX) = OUTSIDE
+            fill(100, 10, 1) = OUTSIDE | fill(10, 100, 1) = OUTSIDE | fill(210, 0, 1) = OUTSIDE
+            fill(110, 200, 6) = OUTSIDE
             """);
         s.run("size(2, 2, 2) | fill(1, 110, 1) = OUTSIDE | fill(10, 101, 1) = OUTSIDE | fill(100, 11, 1) = OUTSIDE",
                 "fill(111, 0, 1) = OUTSIDE | fill(1, 0, 1) = OUTSIDE | cell(1) = 0 | cell(110) = 0");
 
         s.sentence("`int cell(int cell)`: KIND of a CELL. UNKNOWN.");
         s.run(SCENE, "cell(0) = 0 | cell(210) = 2");
-        s.refused(SCENE, "cell(-1) = UNKNOWN | cell(300) = UNKNOWN | cell(20) = UNKNOWN | cell(1) = UNKNOWN | cell(211) = UNKNOWN");
+        s.refused(SCENE,
+                "cell(-1) = UNKNOWN | cell(300) = UNKNOWN | cell(20) = UNKNOWN | cell(1) = UNKNOWN",
+                "cell(211) = UNKNOWN");
     }
 
     private void promises5To7() {
@@ -393,7 +411,8 @@ final class WaySentences {
         s.sentence("`int say(int sign)`: A sign more: how many. OUTSIDE; FULL.");
         s.run("say(48) = 1 | say(48) = 2 | say(48) = 3 | say(45) = 4 | thing(0) = 1 | say(33) = 1 | say(126) = 2",
                 "image(0) | restore(0) | say(48) = 3 | size(1, 1, 1) | say(48) = 4");
-        s.refused(SCENE + "say 000-010c", "say(32) = OUTSIDE | say(127) = OUTSIDE | say(MIN) = OUTSIDE | say(MAX) = OUTSIDE");
+        s.refused(SCENE + "say 000-010c",
+                "say(32) = OUTSIDE | say(127) = OUTSIDE | say(MIN) = OUTSIDE | say(MAX) = OUTSIDE");
         s.refused(full, "say(48) = FULL | say(33) = FULL | say(126) = FULL | say(32) = OUTSIDE | say(127) = OUTSIDE");
 
         s.sentence("`int wipe()`: Signs go: how many there were.");
@@ -404,25 +423,33 @@ final class WaySentences {
 
         s.sentence("`int fault(int how)`: THE FAULT; NONE. OUTSIDE: how.");
         s.run("say 000- | fault(0) = NONE | fault(1) = 0 | wipe() | say zz | fault(0) = 0 | fault(1) = NONE");
-        s.refused(SCENE + "say 000-010c", "fault(-1) = OUTSIDE | fault(2) = OUTSIDE | fault(MIN) = OUTSIDE | fault(MAX) = OUTSIDE");
+        s.refused(SCENE + "say 000-010c",
+                "fault(-1) = OUTSIDE | fault(2) = OUTSIDE | fault(MIN) = OUTSIDE | fault(MAX) = OUTSIDE");
     }
 
     private void promises8To10() {
-        s.sentence("`int thing(int thing)`: The PAD becomes a THING (it is empty then; it lies nowhere): CUBES. UNKNOWN; NO:"
-                + " there is a FAULT.");
+        s.sentence("`int thing(int thing)`: The PAD becomes a THING (it is empty then; it lies nowhere): CUBES."
+                + " UNKNOWN; NO: there is a FAULT.");
         s.run(SCENE + "say 000-001c002d", """
             thing(0) = 3 | told(0) = 0 | told(10) = 3 | told(20) = NONE | CUBES(0) = 000- 001c 002d
             goes(0, 0, 0, -1) = STATE | told(21) = 100 | told(30) = 100 | cost(0, 0, 1) = 5
             thing(0) = NO | say 000- | thing(3) = 1 | told(13) = 1 | told(23) = NONE | CUBES(3) = 000-
             """);
+        // of what it was before nothing is left: no CUBE, no PART, no length along an axis
+        s.run("size(4, 4, 4) | say 000-303a030b | thing(0) = 3 | lay(0, 0) | say 000-110- | thing(0) = 2",
+                "cube(0, 2, 0) = UNKNOWN",
+                "say zz | lay(0, 0) | CUBES(0) = 110- 000- | say xx | lay(0, 220) = 1 | CUBES(0) = 010- 100-",
+                "LEAST(0) = 0 0 0");
         s.refused(SCENE + "say 000-010c",
                 "thing(-1) = UNKNOWN | thing(4) = UNKNOWN | thing(MIN) = UNKNOWN | thing(MAX) = UNKNOWN");
-        for (String pad : new String[] {"", "say 000", "say 000-0", "say 000-000-", "say 100-", "say 000a", "say zz", "say " + TEN + "300-"}) {
-            s.refused(SCENE + pad, "thing(0) = NO | thing(2) = NO | thing(3) = NO | thing(-1) = UNKNOWN | thing(4) = UNKNOWN");
+        String[] pads = {"", "000", "000-0", "000-000-", "100-", "000a", "zz", TEN + "300-"};
+        for (String pad : pads) {
+            s.refused(SCENE + (pad.isEmpty() ? "" : "say " + pad),
+                    "thing(0) = NO | thing(2) = NO | thing(3) = NO | thing(-1) = UNKNOWN | thing(4) = UNKNOWN");
         }
 
-        s.sentence("`int cube(int thing, int cube, int what)`: Of a CUBE as it lies (as told, if it does not): 0 x, 1 y, 2 z"
-                + " from its least corner, 3 the PART (NONE: body). UNKNOWN; OUTSIDE.");
+        s.sentence("`int cube(int thing, int cube, int what)`: Of a CUBE as it lies (as told, if it does not): 0 x,"
+                + " 1 y, 2 z from its least corner, 3 the PART (NONE: body). UNKNOWN; OUTSIDE.");
         s.run(SCENE, """
             CUBES(0) = 000- 100a | CUBES(1) = 100- 000b | CUBES(2) = 000-
             size(3, 3, 3) | CUBES(1) = 000- 010b | say 000- | thing(1) | CUBES(1) = 000-
@@ -435,8 +462,9 @@ final class WaySentences {
             cube(1, 0, MAX) = OUTSIDE
             """);
 
-        s.sentence("`int cost(int thing, int which, int v)`: Cost of a PART of a THING (-1: of a DOOR; of MOVES: -2, of going,"
-                + " lifting, letting down, turning 0 to 3): which it was. UNKNOWN: others than -2 to 3; OUTSIDE.");
+        s.sentence("`int cost(int thing, int which, int v)`: Cost of a PART of a THING (-1: of a DOOR; of MOVES:"
+                + " -2, of going, lifting, letting down, turning 0 to 3): which it was. UNKNOWN: others than -2 to"
+                + " 3; OUTSIDE.");
         StringBuilder costs = new StringBuilder();
         for (int round = 0; round < 3; round++) {
             for (int i = 0; i < 24; i++) {
@@ -450,7 +478,8 @@ final class WaySentences {
             cost(-3, 4, 0) = UNKNOWN | cost(4, 0, 10) = UNKNOWN | cost(-3, -1, -1) = UNKNOWN
             cost(-2, -1, 0) = OUTSIDE | cost(-2, 4, 0) = OUTSIDE | cost(-1, -1, 0) = OUTSIDE | cost(-1, 4, 0) = OUTSIDE
             cost(0, -1, 0) = OUTSIDE | cost(0, 4, 0) = OUTSIDE | cost(3, MIN, 0) = OUTSIDE | cost(3, MAX, 0) = OUTSIDE
-            cost(-2, 0, -1) = OUTSIDE | cost(-2, 0, 10) = OUTSIDE | cost(-1, 3, -1) = OUTSIDE | cost(-1, 3, 10) = OUTSIDE
+            cost(-2, 0, -1) = OUTSIDE | cost(-2, 0, 10) = OUTSIDE | cost(-1, 3, -1) = OUTSIDE
+            cost(-1, 3, 10) = OUTSIDE
             cost(0, 0, -1) = OUTSIDE | cost(0, 0, 10) = OUTSIDE | cost(3, 3, MIN) = OUTSIDE | cost(3, 3, MAX) = OUTSIDE
             """);
     }
