@@ -13,7 +13,36 @@ public final class EffortTest {
             rows += run(new Random(seed), due);
         }
         due.holds(rows + " rows of MOVES", rows > 60);
+        hard(due);
         due.end();
+    }
+
+    /**
+     * Found among millions of ways: here a STAND that was come to dearly is soon come to for less. The numbers are X, Y,
+     * Z, the four costs of MOVES, the CELL where it lies and its GOAL.
+     */
+    private static void hard(Due due) {
+        int[][] walls = {{0, 20, 102, 121, 201}, {110, 111, 310, 400},
+            {0, 102, 120, 121, 302, 331, 332, 421, 502}};
+        int[][] numbers = {{3, 3, 3, 9, 9, 0, 0, 10, 0}, {5, 2, 3, 0, 0, 7, 7, 201, 200},
+            {6, 5, 3, 0, 0, 6, 2, 201, 411}};
+        int[] sums = {27, 14, 8};
+        for (int one = 0; one < walls.length; one++) {
+            due.about("hard way " + one);
+            SofaStair stair = new SofaStair();
+            Model model = new Model();
+            int[] n = numbers[one];
+            due.is("size", stair.size(n[0], n[1], n[2]), model.size(n[0], n[1], n[2]));
+            for (int cell : walls[one]) due.is("wall", stair.fill(cell, cell, 1), model.fill(cell, cell, 1));
+            for (int i = 0; i < 4; i++) due.is("cost", stair.cost(-2, i, n[3 + i]), model.cost(-2, i, n[3 + i]));
+            model.pad = "000-100-200-210-201-";
+            Due.say(stair, model.pad);
+            due.is("thing", stair.thing(0), model.thing(0));
+            due.is("lay", stair.lay(0, n[7]), model.lay(0, n[7]));
+            due.is("goal", stair.goal(0, n[8]), model.goal(0, n[8]));
+            due.is("sum", stair.effort(0, 0, 0, -1), sums[one]);
+            sameRow(stair, model, 0, 0, due);
+        }
     }
 
     private static int run(Random random, Due due) {
