@@ -1,17 +1,22 @@
+import java.io.IOException;
 import java.lang.reflect.Constructor;
 import java.lang.reflect.Field;
 import java.lang.reflect.Method;
 import java.lang.reflect.Modifier;
+import java.nio.file.Files;
+import java.nio.file.Path;
 import java.util.Arrays;
 import java.util.HashSet;
 import java.util.Set;
 import java.util.TreeSet;
+import java.util.regex.Matcher;
+import java.util.regex.Pattern;
 
 /** The class has the face of the document and nothing else that can be seen (LANGUAGE.md, rules 1 and 5). */
 public final class FaceTest {
     private static final Due due = new Due();
 
-    public static void main(String[] args) throws IllegalAccessException {
+    public static void main(String[] args) throws IllegalAccessException, IOException {
         due.about("the face");
         due.is("UNKNOWN", SofaStair.UNKNOWN, -1);
         due.is("OUTSIDE", SofaStair.OUTSIDE, -2);
@@ -25,9 +30,44 @@ public final class FaceTest {
         Constructor<?>[] made = SofaStair.class.getDeclaredConstructors();
         due.holds("one constructor", made.length == 1 && made[0].getModifiers() == Modifier.PUBLIC
                 && made[0].getParameterCount() == 0);
+        String document = Files.readString(Path.of("../shared/DOC.md"));
+        String program = Files.readString(Path.of("src/main/java/SofaStair.java"));
+        inWords(document, program);
+        inGroups(document, program);
         for (Class<?> inside : SofaStair.class.getDeclaredClasses()) inside(inside);
         due.holds("some twelve classes", SofaStair.class.getDeclaredClasses().length <= 12);
         due.end();
+    }
+
+    /** Each line of 'The public face', with the names of parameters, stands in the program, in that order. */
+    private static void inWords(String document, String program) {
+        Matcher block = Pattern.compile("(?s)```java\n(.*?)```").matcher(document);
+        due.holds("the document has a face", block.find());
+        int at = 0, lines = 0;
+        for (String line : block.group(1).split("\n")) {
+            boolean call = line.endsWith(");");
+            int next = program.indexOf(call ? line.replace(");", ") {") : line, at);
+            due.holds("in its place: " + line, next >= at);
+            at = Math.max(at, next);
+            lines++;
+        }
+        due.is("lines of the face", lines, 27);
+    }
+
+    /** What the interface says ahead of calls stands ahead of these and behind the ones before. */
+    private static void inGroups(String document, String program) {
+        Matcher ahead = Pattern.compile("Ahead of the calls (.*?) the interface says: (.*?)\\.\n").matcher(document);
+        int last = 0, groups = 0;
+        for (; ahead.find(); groups++) {
+            int said = program.indexOf("    // " + ahead.group(2) + "\n");
+            due.holds(ahead.group(2), said > last);
+            for (String name : ahead.group(1).replace("`", "").split(", ")) {
+                int call = program.indexOf("    public int " + name + "(");
+                due.holds(name + " is behind " + ahead.group(2), call > said);
+                last = Math.max(last, call);
+            }
+        }
+        due.is("groups of calls", groups, 3);
     }
 
     private static void methods() {

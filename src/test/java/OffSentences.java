@@ -372,7 +372,7 @@ final class OffSentences {
     }
 
     private void calls() {
-        s.sentence("An object is used for at most 512 calls after it has been made");
+        s.sentence("An object is used for at most 512 calls after it has been made; what later calls answer is free.");
         StringBuilder says = new StringBuilder();
         for (int i = 1; i <= 60; i++) says.append("say(48) = " + i + "\n");
         s.run(says.toString(), "say(48) = FULL\n".repeat(450), "wipe() = 60 | told(0) = 0");
